@@ -44,10 +44,10 @@ public final class LassoPaths {
     private final World[] images = new World[IMAGE_COUNT];
     private final boolean[] imageKept = new boolean[IMAGE_COUNT];
 
-    private final SystemReader systemReader = new SystemReader();
+    private final SystemReader systemReader = new SystemReader(typed);
     private final Ground ground = new Ground();
-    private final Tableau tableau = new Tableau();
-    private final LoopSearch search = new LoopSearch();
+    private final Tableau tableau = new Tableau(ground);
+    private final LoopSearch search = new LoopSearch(tableau);
 
     public LassoPaths() {
         for (int i = 0; i < MOST_UNDONE; i++) {
@@ -79,7 +79,7 @@ public final class LassoPaths {
     }
 
     public int system() {
-        int fault = systemReader.read(typed, typedCount, draft);
+        int fault = systemReader.read(typedCount, draft);
         if (fault != FINE) {
             return FAULT_AT_0 - fault;
         }
@@ -248,7 +248,7 @@ public final class LassoPaths {
         if (now.states == 0) {
             return STATE;
         }
-        search.run(tableau, wrongStarts(fair) & tableau.nodesOf(0));
+        search.run(wrongStarts(fair) & tableau.nodesOf(0));
         if (search.length == 0) {
             return NONE;
         }
@@ -269,7 +269,7 @@ public final class LassoPaths {
             return FULL;
         }
         ground.takeAllRows();
-        tableau.open(ground, now.current.laters + other.laters);
+        tableau.open(now.current.laters + other.laters);
         long mine = tableau.tell(now.current, 0);
         long its = tableau.tell(other, 1);
         tableau.finish(false);
@@ -394,7 +394,7 @@ public final class LassoPaths {
 
     /** The nodes at which the formula is so, once the tableau over the ground stands. */
     private long judgeGround(boolean fair) {
-        tableau.open(ground, now.current.laters);
+        tableau.open(now.current.laters);
         long so = tableau.tell(now.current, 0);
         tableau.finish(fair);
         return so;
@@ -599,7 +599,7 @@ public final class LassoPaths {
         private static final int NUMBER = -2;
         private static final int WRONG = -3;
 
-        private int[] text;
+        private final int[] text;
         private int length;
         private int place;
         /** The token read last: where it begins, its letter or one of the kinds above, its value. */
@@ -607,10 +607,13 @@ public final class LassoPaths {
         private int kind;
         private int value;
 
+        SystemReader(int[] text) {
+            this.text = text;
+        }
+
         /** Reads a system into a world that may be spoilt: FINE, or the fault's place. */
-        int read(int[] letters, int letterCount, World into) {
-            text = letters;
-            length = Math.min(letterCount, letters.length);
+        int read(int letterCount, World into) {
+            length = Math.min(letterCount, text.length);
             place = 0;
             into.emptySystem();
             int fault = FINE;
@@ -772,7 +775,7 @@ public final class LassoPaths {
      * longer waits.
      */
     private static final class Tableau {
-        private Ground ground;
+        private final Ground ground;
         /** How many of a node's lowest bits are guesses. */
         private int guesses;
         private int nodes;
@@ -801,10 +804,14 @@ public final class LassoPaths {
         private long core;
         private long live;
 
-        void open(Ground over, int laterCount) {
-            ground = over;
+        Tableau(Ground ground) {
+            this.ground = ground;
+        }
+
+        /** Begins anew over the ground as it is now. */
+        void open(int laterCount) {
             guesses = Math.max(0, Math.min(laterCount, MOST_LATERS));
-            nodes = Math.min(over.places << guesses, MOST_NODES);
+            nodes = Math.min(ground.places << guesses, MOST_NODES);
             all = firstNodes(nodes);
             nodesOfPlace0 = firstNodes(1 << guesses);
             laters = 0;
@@ -830,7 +837,7 @@ public final class LassoPaths {
 
         /** The nodes of a place. */
         long nodesOf(int place) {
-            if (ground == null || place < 0 || place >= ground.places) {
+            if (place < 0 || place >= ground.places) {
                 return 0L;
             }
             return nodesOfPlace0 << (place << guesses);
@@ -1073,20 +1080,24 @@ public final class LassoPaths {
         private int entry;
         private int entryPlace;
 
-        private Tableau tableau;
+        private final Tableau tableau;
         /** For each set of what was met: the nodes come to so far, just now, and next. */
         private final long[] seen = new long[MOST_MET];
         private final long[] front = new long[MOST_MET];
         private final long[] next = new long[MOST_MET];
 
-        void run(Tableau over, long starts) {
-            tableau = over;
+        LoopSearch(Tableau tableau) {
+            this.tableau = tableau;
+        }
+
+        /** Finds the lasso from one of these nodes. */
+        void run(long starts) {
             length = 0;
             long layer = starts;
             long reached = starts;
             // ways to the entry grow by one a round, so the first lasso of a length has the least entry
             for (int way = 0; way < MOST_NODES && layer != 0L && isShorter(way + 1); way++) {
-                tryEntries(way, layer & over.core);
+                tryEntries(way, layer & tableau.core);
                 layer = nextLayer(layer) & ~reached;
                 reached |= layer;
             }
