@@ -52,6 +52,23 @@ final class Check {
         return x;
     }
 
+    /** An object that was asked of other systems, rows and formulas ahead of these, so that remains would be seen. */
+    static LassoPaths used(Random random, String system, String formula) {
+        String all = "s7;s6;s5;s3;s7;m0 0 1;m1 0 2;m0 1 3;m1 2 4;m0 3 0;m1 4 0;m0 0 0;m1 3 3;m0 4 4;m1 1 2;";
+        LassoPaths x = made(all, randomFormula(random, 16, 3, "abc"));
+        x.breaks(random.nextInt(2), 0);
+        x.shows(7);
+        x.judged(0);
+        x.hides();
+        x.against(0, random.nextInt(4));
+        if (random.nextBoolean()) {
+            x.where(random.nextInt(2));
+        }
+        that("system is read", system(x, system) >= 0);
+        that("formula is read", formula(x, formula) > 0);
+        return x;
+    }
+
     /** A whole formula of at most so many parts and later parts, of the given leaves. */
     static String randomFormula(Random random, int most, int laters, String leaves) {
         StringBuilder text = new StringBuilder();

@@ -10,7 +10,7 @@ public final class PathsOracleTest {
         for (int round = 0; round < 1500; round++) {
             Oracle.Net net = randomNet(random);
             String formula = Check.randomFormula(random, 1 + random.nextInt(16), random.nextInt(4), "abc01ab");
-            LassoPaths x = Check.made(net.text(), formula);
+            LassoPaths x = Check.used(random, net.text(), formula);
             LassoPaths not = Check.made(net.text(), formula.length() < 16 ? "n" + formula : "1");
             for (int fair = 0; fair <= 1; fair++) {
                 String of = net.text() + " " + formula + " fair " + fair + ": ";

@@ -450,6 +450,9 @@ public final class PromisesTest {
         breaks(Check.made(petals, "ngkfbfc"), 0, 5, 0, 0);
         breaks(Check.made(petals, "ngkfakfbc"), 0, NONE, NONE, NONE);
         breaks(Check.made(petals, "nkgfafb"), 0, 4, 0, 0);
+        // three waiting parts and both actors' dues at once
+        breaks(Check.made("s0;s1;s2;m0 0 1;m0 1 0;m0 0 2;m0 2 0;", "ngkfafb"), 1, 4, 0, 0);
+        breaks(Check.made("s0;s1;s2;m0 0 1;m0 1 0;m0 0 2;m0 2 0;m1 0 0;m1 1 1;m1 2 2;", "ngkfafb"), 1, 5, 0, 0);
         // the way to the loop is longer than the loop
         String tail = "s0;s0;s0;s0;s1;m0 0 1;m0 1 2;m0 2 3;m0 3 4;m1 4 4;";
         breaks(Check.made(tail, "nfga"), 0, 5, 4, 4);
@@ -480,11 +483,36 @@ public final class PromisesTest {
             Check.due("19 no such slot", x.against(wrong, 0), BAD);
             Check.due("19 no such thing", x.against(0, wrong), BAD);
         }
+        labelsOfAllRows();
         x.stores(2);
         Check.formula(x, "nc");
         against(x, 2, 0, 0, 0, 1);
         Check.formula(x, "xga");
         Check.due("19 five together", x.against(2, 3), FULL);
+    }
+
+    /** Each label may come first and behind each other one, whatever the system and the labels shown were. */
+    private static void labelsOfAllRows() {
+        LassoPaths x = Check.made("s7;s7;m0 0 1;m1 1 0;", "gb");
+        x.shows(7);
+        for (int first = 0; first < 8; first++) {
+            for (int next = 0; next < 8; next++) {
+                x.where(1);
+                x.judged(0);
+                Check.formula(x, justLabel(first));
+                x.stores(0);
+                Check.formula(x, "x" + justLabel(next));
+                against(x, 0, 0, 0, 0, 1);
+                Check.formula(x, "n" + justLabel(next));
+                Check.due("19 another label", x.against(0, 1), 0);
+                Check.due("19 another label", x.against(0, 2), first == next ? 0 : 1);
+                Check.due("19 another label", x.against(0, 3), first == next ? 0 : 1);
+            }
+        }
+    }
+
+    private static String justLabel(int label) {
+        return "kk" + ((label & 1) != 0 ? "a" : "na") + ((label & 2) != 0 ? "b" : "nb") + ((label & 4) != 0 ? "c" : "nc");
     }
 
     private static void against(LassoPaths x, int slot, int same, int forth, int andBack, int both) {

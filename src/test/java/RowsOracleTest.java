@@ -17,7 +17,7 @@ public final class RowsOracleTest {
 
     private static void judged(Random random) {
         String formula = Check.randomFormula(random, 1 + random.nextInt(16), random.nextInt(4), "abc01");
-        LassoPaths x = Check.made("", formula);
+        LassoPaths x = Check.used(random, "s7;s1;m0 0 1;", formula);
         int n = 1 + random.nextInt(8);
         int[] row = new int[n];
         StringBuilder told = new StringBuilder();
@@ -38,7 +38,8 @@ public final class RowsOracleTest {
         String mine = Check.randomFormula(random, 1 + random.nextInt(8), laters, "ab01ab");
         String its = Check.randomFormula(random, 1 + random.nextInt(8), 3 - laters, "ab01ab");
         int slot = random.nextInt(3);
-        LassoPaths x = Check.made("", its);
+        LassoPaths x = Check.used(random, "s7;s1;m0 0 1;", its);
+        x.where(1);
         x.stores(slot);
         Check.formula(x, mine);
         boolean onlyMine = false;
