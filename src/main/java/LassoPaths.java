@@ -1007,8 +1007,9 @@ public final class LassoPaths {
             }
             for (int by = 0; by < nodes && by < MOST_NODES; by++) {
                 long further = reach[by];
+                long byAlone = 1L << by;
                 for (int node = 0; further != 0L && node < nodes && node < MOST_NODES; node++) {
-                    if (has(reach[node], by)) {
+                    if ((reach[node] & byAlone) != 0L) {
                         reach[node] |= further;
                     }
                 }
