@@ -50,11 +50,14 @@ final class Run {
         return new Run(all);
     }
 
+    /** A text that is told well; a run that leans on one that is not would test nothing. */
     Run system(String text) {
+        Check.that("system \"" + text + "\" is read", typed(text).answers(LassoPaths::system) >= 0);
         return typed(text).then(LassoPaths::system);
     }
 
     Run formula(String text) {
+        Check.that("formula \"" + text + "\" is read", typed(text).answers(LassoPaths::formula) >= 0);
         return typed(text).then(LassoPaths::formula);
     }
 
