@@ -270,8 +270,8 @@ public final class LassoPaths {
         }
         ground.takeAllRows();
         tableau.open(now.current.laters + other.laters);
-        long mine = tableau.tell(now.current, 0);
-        long its = tableau.tell(other, 1);
+        long mine = tableau.tell(now.current);
+        long its = tableau.tell(other);
         tableau.finish(false);
         switch (what) {
             case 0:
@@ -395,7 +395,7 @@ public final class LassoPaths {
     /** The nodes at which the formula is so, once the tableau over the ground stands. */
     private long judgeGround(boolean fair) {
         tableau.open(now.current.laters);
-        long so = tableau.tell(now.current, 0);
+        long so = tableau.tell(now.current);
         tableau.finish(fair);
         return so;
     }
@@ -781,8 +781,8 @@ public final class LassoPaths {
         private int nodes;
         private long all;
         private long nodesOfPlace0;
-        /** The nodes at which a part is so, of two formulas. */
-        private final long[] so = new long[2 * MOST_PARTS];
+        /** The nodes at which a part is so, of the formula told last. */
+        private final long[] so = new long[MOST_PARTS];
 
         /** Later parts: guessed so at, so as long as, fulfilled at (nodes); whether just the next place matters. */
         private int laters;
@@ -817,13 +817,12 @@ public final class LassoPaths {
             laters = 0;
         }
 
-        /** A formula (the first or the second) is told: the nodes at which it is so. */
-        long tell(Formula formula, int which) {
-            int base = which == 1 ? MOST_PARTS : 0;
+        /** A formula is told (one or two of them may be): the nodes at which it is so. */
+        long tell(Formula formula) {
             for (int p = Math.min(formula.size, MOST_PARTS) - 1; p >= 0; p--) {
-                so[base + p] = nodesWhere(formula, p, base);
+                so[p] = nodesWhere(formula, p);
             }
-            return so[base];
+            return so[0];
         }
 
         /** All formulas are told: steps, rings and live nodes come to stand. */
@@ -855,13 +854,13 @@ public final class LassoPaths {
             return (set >>> node & 1L) != 0L;
         }
 
-        private long nodesWhere(Formula formula, int p, int base) {
+        private long nodesWhere(Formula formula, int p) {
             int letter = formula.letterOf(p);
             int inner = innerCount(letter);
             int firstPart = p + 1;
             int secondPart = inner == 2 ? firstPart + formula.spanOf(firstPart) : firstPart;
-            long first = inner >= 1 && firstPart < MOST_PARTS ? so[base + firstPart] : 0L;
-            long second = inner == 2 && secondPart < MOST_PARTS ? so[base + secondPart] : 0L;
+            long first = inner >= 1 && firstPart < MOST_PARTS ? so[firstPart] : 0L;
+            long second = inner == 2 && secondPart < MOST_PARTS ? so[secondPart] : 0L;
             switch (letter) {
                 case 'a':
                     return labelled(0);

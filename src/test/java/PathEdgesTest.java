@@ -23,6 +23,8 @@ public final class PathEdgesTest {
         breaksNone();
         breaksFairAlikeEachRound();
         breaksLongerThanStates();
+        breaksMostDue();
+        breaksManyWays();
         breaksRefused();
         nothingIsChanged();
         Check.end();
@@ -271,6 +273,23 @@ public final class PathEdgesTest {
         String flower = "s0;s1;s2;s4;m0 0 1;m0 1 0;m0 0 2;m0 2 0;m0 0 3;m0 3 0;";
         breaks("18 two petals in one round", of(flower, "ngkfafb"), 0, 4, 0, 0);
         breaks("18 a round and a way", of(flower, "nkfagfb"), 0, 4, 0, 0);
+    }
+
+    /** Three parts that wait for something and both actors' moves, all in one round. */
+    private static void breaksMostDue() {
+        String petals = "s0;s1;s2;m0 0 1;m0 1 0;m0 0 2;m0 2 0;";
+        breaks("18 one ACTOR, both petals", of(petals, "ngkfafb"), 1, 4, 0, 0);
+        breaks("18 both ACTORS, both petals", of(petals + "m1 0 0;m1 1 1;m1 2 2;", "ngkfafb"), 1, 5, 0, 0);
+        breaks("18 both petals told the other way", of(petals + "m1 0 0;m1 1 1;m1 2 2;", "ngkfbfa"), 1, 5, 0, 0);
+        breaks("18 both ACTORS, one petal", of(petals + "m1 0 0;m1 1 1;m1 2 2;", "ngfa"), 1, 3, 0, 0);
+        breaks("18 both ACTORS, the other petal", of(petals + "m1 0 0;m1 1 1;m1 2 2;", "ngfb"), 1, 3, 0, 0);
+        breaks("18 not FAIR, both petals", of(petals + "m1 0 0;m1 1 1;m1 2 2;", "ngkfafb"), 0, 4, 0, 0);
+    }
+
+    private static void breaksManyWays() {
+        breaks("18 the first of two ways", of("s1;s1;s1;s0;s1;m0 0 1;m0 0 2;m0 1 3;m0 2 4;", "ga"), 0, 3, 2, 3);
+        breaks("18 the second of two ways", of("s1;s1;s1;s1;s0;m0 0 1;m0 0 2;m0 1 3;m0 2 4;", "ga"), 0, 3, 2, 4);
+        breaks("18 both of two ways", of("s1;s1;s1;s0;s0;m0 0 1;m0 0 2;m0 1 4;m0 2 3;", "ga"), 0, 3, 2, 3);
     }
 
     private static void breaksRefused() {

@@ -31,7 +31,32 @@ public final class RowEdgesTest {
 
     /** Whether the formula is so of this row, from its k-th label on again and again. */
     private static void judged(String sentence, String formula, int k, int so, int... row) {
-        due(sentence + ": " + formula, NEW.shown(row).formula(formula), x -> x.judged(k), so);
+        String of = sentence + ": " + formula;
+        due(of, NEW.shown(row).formula(formula), x -> x.judged(k), so);
+        due("not " + of, NEW.shown(row).formula("n" + formula), x -> x.judged(k), 1 - so);
+        if (row.length <= 5) {
+            asPath(of, formula, k, so, row);
+        }
+    }
+
+    /** The same row as the only path of a system: it is so of each path and of some one, or of none. */
+    private static void asPath(String of, String formula, int k, int so, int... row) {
+        StringBuilder system = new StringBuilder();
+        for (int label : row) {
+            system.append('s').append(label).append(';');
+        }
+        for (int i = 0; i < row.length; i++) {
+            int to = i + 1 < row.length ? i + 1 : k;
+            system.append('m').append(i % 2).append(' ').append(i).append(' ').append(to).append(';');
+        }
+        Run run = NEW.system(system.toString()).formula(formula);
+        for (int fair = 0; fair < 2; fair++) {
+            int f = fair;
+            due("a PATH: " + of, run, x -> x.holds(f, 0), so);
+            due("some PATH: " + of, run, x -> x.some(f), so);
+            due("where: " + of, run, x -> x.where(f) & 1, so);
+            Check.due("a LASSO is found if it is not SO: " + of, run.answers(x -> x.breaks(f, 0)) > 0 ? 1 : 0, 1 - so);
+        }
     }
 
     // ---- what a part is
@@ -121,6 +146,7 @@ public final class RowEdgesTest {
         judged("2 u of g: D ends too early", "ubga", 2, 0, B, 0, A);
         judged("2 u of x as D", "uxab", 2, 1, 0, A, A + B);
         judged("2 u of x as D", "uxab", 3, 0, 0, A, 0, B);
+        judged("2 u of x as D: not at the first place", "uxab", 1, 1, 0, A + B);
         judged("2 u in u", "uuabc", 3, 0, A, B, A, C);
         judged("2 u in u", "uuabc", 3, 1, A, A, B, C);
         judged("2 u in u as E", "uaubc", 3, 1, A, B, B, C);
@@ -181,6 +207,11 @@ public final class RowEdgesTest {
             against("g" + just, "1", 0, 1, 0, 1);
             against(just, "x" + just, 0, 0, 0, 1);
             against("n" + just, "1", 0, 1, 0, 1);
+            for (String laters : new String[] {"ggg", "fff", "xxx", "fgx", "gfg", "u0u0u0"}) {
+                against(laters + just, "1", 0, 1, 0, 1);
+                against("n" + laters + just, "1", 0, 1, 0, 1);
+                judged("2 at each of eight places", laters + just, 7, 1, label, label, label, label, label, label, label, label);
+            }
         }
         Run run = NEW.system("s1;").shown(1).formula("ga");
         due("19 not the SYSTEM's rows alone", run, x -> x.against(0, 2), 0);
