@@ -16,6 +16,7 @@ public final class PathEdgesTest {
         holdsOfEach();
         holdsRefused();
         whereBits();
+        whereInEachOrder();
         someFromState0();
         breaksLeastN();
         breaksLeastK();
@@ -190,6 +191,41 @@ public final class PathEdgesTest {
         of("s1;s2;", "a").bad("16 BAD: fair 0, 1", (x, fair) -> x.where(fair), -1, 2);
         due("16 of FAIR ones", of("s1;s2;m0 0 0;m1 0 1;", "fb"), x -> x.where(1), 3);
         due("16 of all", of("s1;s2;m0 0 0;m1 0 1;", "fb"), x -> x.where(0), 2);
+    }
+
+    /** All five states in one line, in each order: each is reached by way of all those ahead of it, 0 as well. */
+    private static void whereInEachOrder() {
+        for (int code = 0; code < 3125; code++) {
+            int[] order = {code % 5, code / 5 % 5, code / 25 % 5, code / 125 % 5, code / 625};
+            int all = 0;
+            for (int s : order) {
+                all |= 1 << s;
+            }
+            if (all == 31) {
+                whereInOrder(order);
+            }
+        }
+    }
+
+    private static void whereInOrder(int[] order) {
+        StringBuilder system = new StringBuilder();
+        for (int s = 0; s < 5; s++) {
+            system.append(s == order[4] ? "s1;" : "s0;");
+        }
+        for (int i = 0; i < 4; i++) {
+            system.append('m').append(i % 2).append(' ').append(order[i]).append(' ').append(order[i + 1]).append(';');
+        }
+        int last = 1 << order[4];
+        int lastTwo = last | 1 << order[3];
+        for (int fair = 0; fair < 2; fair++) {
+            int f = fair;
+            due("16 nowhere: " + system, of(system.toString(), "0"), x -> x.where(f), 0);
+            due("16 at the end: " + system, of(system.toString(), "a"), x -> x.where(f), last);
+            due("16 at the end for ever: " + system, of(system.toString(), "ga"), x -> x.where(f), last);
+            due("16 just ahead of the end: " + system, of(system.toString(), "xa"), x -> x.where(f), lastTwo);
+            due("16 some time: " + system, of(system.toString(), "fga"), x -> x.where(f), 31);
+            due("16 never not: " + system, of(system.toString(), "gfna"), x -> x.where(f), 0);
+        }
     }
 
     private static void someFromState0() {
