@@ -104,7 +104,7 @@ final class Run {
         refused(sentence, call, answer);
     }
 
-    /** All that can be seen of such an object, whatever is called next. */
+    /** What a broad set of next calls shows of such an object. */
     String seen() {
         StringBuilder all = new StringBuilder();
         all.append(view(object())).append("\ntext:");
