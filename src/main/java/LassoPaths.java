@@ -44,10 +44,11 @@ public final class LassoPaths {
     private final World[] images = new World[IMAGE_COUNT];
     private final boolean[] imageKept = new boolean[IMAGE_COUNT];
 
-    private final SystemReader systemReader = new SystemReader(typed);
-    private final Ground ground = new Ground();
-    private final Tableau tableau = new Tableau(ground);
-    private final LoopSearch search = new LoopSearch(tableau);
+    private final SystemReader systemReader = new SystemReader();
+    /** Each of these makes the next one itself, so that no constructor hands out what is still being made. */
+    private final LoopSearch search = new LoopSearch();
+    private final Tableau tableau = search.tableau;
+    private final Ground ground = tableau.ground;
 
     public LassoPaths() {
         for (int i = 0; i < MOST_UNDONE; i++) {
@@ -79,7 +80,7 @@ public final class LassoPaths {
     }
 
     public int system() {
-        int fault = systemReader.read(typedCount, draft);
+        int fault = systemReader.read(typed, typedCount, draft);
         if (fault != FINE) {
             return FAULT_AT_0 - fault;
         }
@@ -599,7 +600,7 @@ public final class LassoPaths {
         private static final int NUMBER = -2;
         private static final int WRONG = -3;
 
-        private final int[] text;
+        private final int[] text = new int[MOST_TYPED];
         private int length;
         private int place;
         /** The token read last: where it begins, its letter or one of the kinds above, its value. */
@@ -607,13 +608,10 @@ public final class LassoPaths {
         private int kind;
         private int value;
 
-        SystemReader(int[] text) {
-            this.text = text;
-        }
-
         /** Reads a system into a world that may be spoilt: FINE, or the fault's place. */
-        int read(int letterCount, World into) {
-            length = Math.min(letterCount, text.length);
+        int read(int[] letters, int letterCount, World into) {
+            length = Math.max(0, Math.min(letterCount, Math.min(letters.length, MOST_TYPED)));
+            System.arraycopy(letters, 0, text, 0, length);
             place = 0;
             into.emptySystem();
             int fault = FINE;
@@ -775,7 +773,7 @@ public final class LassoPaths {
      * longer waits.
      */
     private static final class Tableau {
-        private final Ground ground;
+        private final Ground ground = new Ground();
         /** How many of a node's lowest bits are guesses. */
         private int guesses;
         private int nodes;
@@ -803,10 +801,6 @@ public final class LassoPaths {
         /** Nodes of rings that meet all that is due; nodes from which such a one is reached. */
         private long core;
         private long live;
-
-        Tableau(Ground ground) {
-            this.ground = ground;
-        }
 
         /** Begins anew over the ground as it is now. */
         void open(int laterCount) {
@@ -1080,15 +1074,11 @@ public final class LassoPaths {
         private int entry;
         private int entryPlace;
 
-        private final Tableau tableau;
+        private final Tableau tableau = new Tableau();
         /** For each set of what was met: the nodes come to so far, just now, and next. */
         private final long[] seen = new long[MOST_MET];
         private final long[] front = new long[MOST_MET];
         private final long[] next = new long[MOST_MET];
-
-        LoopSearch(Tableau tableau) {
-            this.tableau = tableau;
-        }
 
         /** Finds the lasso from one of these nodes. */
         void run(long starts) {

@@ -9,7 +9,9 @@ public final class LanguageTest {
         "\\b(throw|throws|try|catch|finally|synchronized|assert|import|package|var|volatile|transient|native)\\b",
         "->", "::", "\\bstatic\\s*\\{", "Exact\\b", "\"", "\\?\\s*extends", "@",
         "\\b(hashCode|toString|equals|Object|Thread|Random|getClass|currentTimeMillis|nanoTime)\\b",
-        "System\\.(?!arraycopy\\b)", "\\bwhile\\s*\\(\\s*true", "for\\s*\\(\\s*;", "\\bprotected\\b"};
+        "System\\.(?!arraycopy\\b)", "\\bwhile\\s*\\(\\s*true", "for\\s*\\(\\s*;", "\\bprotected\\b",
+        // rule 12, a constructor hands out nothing of what it makes: so none is given anything
+        "\\bnew\\s+[A-Z]\\w*\\s*\\([^)]", "\\bthis\\b"};
 
     public static void main(String[] args) throws Exception {
         String source = Files.readString(Path.of("src/main/java/LassoPaths.java"));
